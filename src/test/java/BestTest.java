@@ -50,6 +50,8 @@ public final class BestTest {
         BargeTalks y = Checks.told("cut 2;deaf 0 2;plain 0 2;talk 0 1 1;");
         Checks.due("best not to be deaf", y.kind(0, 10, 0), 0);
         Checks.due("ends so", y.kind(0, 10, 1), 10);
+        Checks.due("no hours: the first", y.kind(0, 0, 0), 0);
+        Checks.due("no hours: none end", y.kind(0, 0, 1), 0);
     }
 
     private static void leastMemory() {
@@ -118,6 +120,11 @@ public final class BestTest {
         luck(shy, new int[] {5, 0, 8}, 1, 1);
         BargeTalks deaf = Checks.told("cut 2;deaf 0 2;plain 0 2;talk 0 1 1;");
         luck(deaf, new int[] {5, 0, 2}, 3, 4);
+        BargeTalks answers = Checks.told("cut 2;plain 0 2;quick 0 2;talk 0 1 3;");
+        luck(answers, new int[] {5, 0, 2}, 3, 4);
+        luck(answers, new int[] {5, 0, 1}, 1, 1);
+        BargeTalks crowd = Checks.told("cut 2;plain 0 2;shy 0 2;plain 0 2;talk 0 1 2;");
+        luck(crowd, new int[] {5, 0, 8}, 1, 1);
     }
 
     private static void mean(BargeTalks x, int v, int n, long above, long below) {
@@ -137,6 +144,8 @@ public final class BestTest {
         mean(new BargeTalks(), 5, 8, 0, 1);
         BargeTalks deaf = Checks.told("cut 2;deaf 0 2;plain 0 2;talk 0 1 1;");
         mean(deaf, 5, 2, 1, 4);
+        mean(x, 1, 1, 9, 10);
+        mean(Checks.told("memory 1;cut 2;plain 0 2;quick 0 2;talk 0 1 9;"), 1, 3, 4401, 1000);
     }
 
     private static void wrongNumbers() {

@@ -47,6 +47,9 @@ public final class ChangeTest {
         Checks.due("silent for", far.talk(0, 4), 5);
         far.hours(1);
         Checks.due("but in the next hour", far.talk(0, 6), 1);
+        far.cut(0);
+        far.start(0, 1, 9);
+        Checks.due("one in its place has lost nothing", far.talk(0, 6), 0);
     }
 
     private static void talksAreStarted() {
@@ -80,6 +83,10 @@ public final class ChangeTest {
         Checks.due("ended of all that are", x.rule(5), 2);
         Checks.due("start in its place", x.start(1, 0, 3), 2);
         Checks.due("it is new", x.talk(1, 3), 0);
+        x.cut(0);
+        Checks.due("start in place of one that has ended", x.start(0, 1, 3), 1);
+        Checks.due("this one has not", x.talk(0, 5), 0);
+        x.start(0, 1, 3);
         Checks.due("cut 0", x.cut(0), 2);
         Checks.due("cut 0 again", x.cut(0), 0);
     }

@@ -182,6 +182,7 @@ public final class HoursTest {
         Checks.due("in this hour", x.when(0, 2), 0);
         Checks.due("half way", x.when(0, 1), 9);
         Checks.due("either way", x.when(1, 0), 9);
+        Checks.due("either way of 2 and 1", x.when(2, 1), 9);
         Checks.due("at the far end", x.when(0, 3), 18);
         Checks.due("nothing goes", x.rule(2), 0);
         Checks.due("never", Checks.told(APART).when(0, 1), NONE);

@@ -166,6 +166,7 @@ public final class SeenTest {
         for (int[] w : wrong) {
             Checks.due("drift " + w[1] + " " + w[2], y.drift(w[0], w[1], w[2]), BAD);
         }
+        Checks.due("one barge", Checks.told("plain 0 1;").drift(0, 1, 0), 0);
         Checks.due("no barges", new BargeTalks().drift(0, 1, 0), STATE);
         Checks.due("no barges and wrong", new BargeTalks().drift(0, 0, 0), BAD);
     }

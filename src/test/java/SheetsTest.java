@@ -5,6 +5,7 @@ public final class SheetsTest {
 
     public static void main(String[] args) {
         images();
+        imagesKeepLostAndSeen();
         imagesStandApart();
         sheetsAreMade();
         cellsAreLaid();
@@ -49,6 +50,28 @@ public final class SheetsTest {
             Checks.due("all of the talks: " + i, then[i], talk[i]);
         }
         Checks.due("kept still", x.keep(1), 1);
+    }
+
+    private static void imagesKeepLostAndSeen() {
+        BargeTalks x = Checks.told("cut 3;memory 1;plain 0 1;plain 3 1;talk 0 1 4;talk 1 0 4;");
+        x.see(3, 1, 1);
+        x.see(4, 0, 0);
+        x.hours(6);
+        Checks.due("lost", x.talk(0, 6), 1);
+        Checks.due("as seen, six hours go round", x.paces(0) >> 1 & 1, 1);
+        int paces = x.paces(0);
+        int kinds = x.kinds(0);
+        x.keep(0);
+        x.hours(6);
+        x.forget(0);
+        x.see(1, 0, 20);
+        x.see(1, 0, 20);
+        Checks.due("never as seen", x.paces(0), 0);
+        x.back(0);
+        Checks.due("lost then", x.talk(0, 6), 1);
+        Checks.due("seen then", x.count(0), 2);
+        Checks.due("paces by it", x.paces(0), paces);
+        Checks.due("kinds by it", x.kinds(0), kinds);
     }
 
     private static int[] talkRow(BargeTalks x) {
@@ -107,6 +130,7 @@ public final class SheetsTest {
         Checks.due("lay -1", x.lay(1, -1, 0), -12);
         Checks.due("lay 3", x.lay(1, 3, 0), -12);
         Checks.due("lay 2", x.lay(1, 2, 0), 1);
+        Checks.due("lay 0", x.lay(1, 0, 0), 1);
         x.sheet(1, 1, 0);
         Checks.due("lay on none", x.lay(1, 0, 0), -12);
     }
@@ -134,8 +158,22 @@ public final class SheetsTest {
             Checks.due("torn of none", x.torn(), 0);
         }
         BargeTalks fresh = withSheet(0, 0, 1, 5);
-        fresh.sheet(2, 0, 3);
-        Checks.due("a new row is of 0", fresh.read(2, 0, 0, 1), -20);
+        Checks.due("a new row", fresh.sheet(2, 0, 3), 1);
+        fresh.lay(2, 1, 1);
+        Checks.due("its need is 0", fresh.read(2, 0, 0, 1), -20);
+        fresh.lay(2, 2, 1);
+        Checks.due("its first barge is 0", fresh.read(2, 0, 0, 1), 1);
+        fresh.sheet(3, 2, 40);
+        for (int i = 0; i < 40; i++) {
+            fresh.lay(3, i, 7);
+        }
+        fresh.sheet(3, 2, 40);
+        for (int i = 1; i < 40; i++) {
+            fresh.lay(3, i, i % 3 == 0 ? 0 : 1);
+        }
+        Checks.due("read of the last sheet", fresh.read(3, 2, 0, 1), 1);
+        Checks.due("13 are too many", fresh.read(3, 2, 0, 13), -24);
+        Checks.due("up to its last cell", fresh.read(3, 2, 36, 1), 1);
     }
 
     private static void lowestBits() {

@@ -133,6 +133,9 @@ public final class TextTest {
     private static void faultsOfOrder() {
         fault("barge 1 1;", 2, 0);
         fault("cutt 3;", 2, 0);
+        fault("z", 2, 0);
+        fault("but 3;", 2, 0);
+        fault("dear 3 3;", 2, 0);
         fault("cu 3;", 2, 0);
         fault(" ;", 2, 1);
         fault("cut 2;;", 2, 6);
@@ -186,11 +189,17 @@ public final class TextTest {
         fault("talk 4 0 1;plain 0 1;", 6, 21);
         Checks.due("five barges", Checks.told(five + six).rule(0), 5);
         Checks.due("six talks", Checks.told(six + five).rule(1), 6);
+        Checks.due("the last barge first", Checks.told("talk 4 3 1;" + five).talk(0, 0), 4);
+        Checks.due("the last barge second", Checks.told("talk 3 4 1;" + five).talk(0, 1), 4);
     }
 
     private static void firstFaultCounts() {
         fault("talk 0 1 1;cut 1;", 3, 15);
         fault("plain 40 ?", 3, 6);
+        fault("memory 0 ?", 3, 7);
+        fault("cut 1 ?", 3, 4);
+        fault("plain 0 0 ?", 3, 8);
+        fault("talk 0 1 0 ?", 3, 9);
         fault("cut 2 ?", 1, 6);
         fault("cut 99 999", 3, 4);
         fault("plain 0 1 999;", 1, 10);

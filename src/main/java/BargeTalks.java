@@ -95,9 +95,9 @@ public final class BargeTalks {
             case 4:
                 return now.memoryHours;
             case 5:
-                return now.endedOfAll();
+                return now.sumOfTalks(Talk.ENDED);
             case 6:
-                return now.lostOfAll();
+                return now.sumOfTalks(Talk.LOST);
             case 7:
                 return lookAhead().meetings;
             default:
@@ -126,32 +126,10 @@ public final class BargeTalks {
     }
 
     public int talk(int t, int what) {
-        if (!now.hasTalk(t)) {
+        if (!now.hasTalk(t) || !within(what, 0, 8)) {
             return BAD;
         }
-        Talk asked = now.rows[t];
-        switch (what) {
-            case 0:
-                return asked.first;
-            case 1:
-                return asked.second;
-            case 2:
-                return asked.needed;
-            case 3:
-                return asked.said;
-            case 4:
-                return asked.since;
-            case 5:
-                return asked.ended;
-            case 6:
-                return asked.lost;
-            case 7:
-                return asked.turn();
-            case 8:
-                return asked.nod ? 1 : 0;
-            default:
-                return BAD;
-        }
+        return now.rows[t].tell(what);
     }
 
     // ---- what is changed
@@ -215,7 +193,7 @@ public final class BargeTalks {
         }
         now.clearCounts();
         now.passHours(n);
-        return now.endings();
+        return now.sumOfTalks(Talk.ENDINGS);
     }
 
     public int runs(int n, int what) {
@@ -226,9 +204,9 @@ public final class BargeTalks {
         trial.passHours(n);
         switch (what) {
             case 0:
-                return trial.endings();
+                return trial.sumOfTalks(Talk.ENDINGS);
             case 1:
-                return trial.losses();
+                return trial.sumOfTalks(Talk.LOSSES);
             case 2:
                 return trial.words;
             default:
@@ -312,7 +290,7 @@ public final class BargeTalks {
         }
         tryFromNow();
         trial.passHours(n);
-        int most = trial.endings();
+        int most = trial.sumOfTalks(Talk.ENDINGS);
         int pair = NONE;
         for (int a = 0; a < now.barges; a++) {
             for (int b = a + 1; b < now.barges; b++) {
@@ -422,7 +400,7 @@ public final class BargeTalks {
             trial.paceOf[got % now.barges] = got / 8 % MOST_PACE + 1;
             trial.passHour();
         }
-        return what == 0 ? trial.endings() : trial.words;
+        return what == 0 ? trial.sumOfTalks(Talk.ENDINGS) : trial.words;
     }
 
     // ---- images, sheets
@@ -516,7 +494,7 @@ public final class BargeTalks {
             case 4:
                 return now.pacesOfAll();
             case 5:
-                return now.needsOfAll();
+                return now.sumOfTalks(Talk.NEED);
             default:
                 return BAD;
         }
@@ -547,7 +525,7 @@ public final class BargeTalks {
             tryFromNow();
             trial.put(b, which, v);
             trial.passHours(n);
-            int ends = trial.endings();
+            int ends = trial.sumOfTalks(Talk.ENDINGS);
             if (ends > most) {
                 most = ends;
                 bestValue = v;
@@ -561,7 +539,7 @@ public final class BargeTalks {
         trial.paceOf[a] = now.paceOf[b];
         trial.paceOf[b] = now.paceOf[a];
         trial.passHours(n);
-        return trial.endings();
+        return trial.sumOfTalks(Talk.ENDINGS);
     }
 
     private static long partOfFraction(long above, long below, int what) {
@@ -655,6 +633,8 @@ public final class BargeTalks {
 
     /** A TALK of two BARGES. */
     private static final class Talk {
+        private static final int NEED = 2, ENDED = 5, LOST = 6, ENDINGS = 9, LOSSES = 10;
+
         private int first;
         private int second;
         private int needed;
@@ -689,6 +669,35 @@ public final class BargeTalks {
             lost = other.lost;
             endings = other.endings;
             losses = other.losses;
+        }
+
+        private int tell(int what) {
+            switch (what) {
+                case 0:
+                    return first;
+                case 1:
+                    return second;
+                case NEED:
+                    return needed;
+                case 3:
+                    return said;
+                case 4:
+                    return since;
+                case ENDED:
+                    return ended;
+                case LOST:
+                    return lost;
+                case 7:
+                    return turn();
+                case 8:
+                    return nod ? 1 : 0;
+                case ENDINGS:
+                    return endings;
+                case LOSSES:
+                    return losses;
+                default:
+                    return BAD;
+            }
         }
 
         private int turn() {
@@ -948,34 +957,10 @@ public final class BargeTalks {
             return longest;
         }
 
-        private int endings() {
+        private int sumOfTalks(int what) {
             int sum = 0;
             for (int t = 0; t < talks; t++) {
-                sum += rows[t].endings;
-            }
-            return sum;
-        }
-
-        private int losses() {
-            int sum = 0;
-            for (int t = 0; t < talks; t++) {
-                sum += rows[t].losses;
-            }
-            return sum;
-        }
-
-        private int endedOfAll() {
-            int sum = 0;
-            for (int t = 0; t < talks; t++) {
-                sum += rows[t].ended;
-            }
-            return sum;
-        }
-
-        private int lostOfAll() {
-            int sum = 0;
-            for (int t = 0; t < talks; t++) {
-                sum += rows[t].lost;
+                sum += rows[t].tell(what);
             }
             return sum;
         }
@@ -984,14 +969,6 @@ public final class BargeTalks {
             int sum = 0;
             for (int b = 0; b < barges; b++) {
                 sum += paceOf[b];
-            }
-            return sum;
-        }
-
-        private int needsOfAll() {
-            int sum = 0;
-            for (int t = 0; t < talks; t++) {
-                sum += rows[t].needed;
             }
             return sum;
         }

@@ -145,6 +145,16 @@ public final class SeenTest {
         BargeTalks x = Checks.told("cut 2;plain 0 2;plain 0 2;talk 0 1 1;talk 0 1 5;");
         Checks.due("the talk that does not end at once", x.ask(0, 0), 31);
         Checks.due("five are left", x.ask(0, 1), 5);
+        BargeTalks late = Checks.told("cut 19;plain 26 2;plain 27 1;talk 0 1 9;");
+        late.see(10, 0, 1);
+        late.see(7, 0, 1);
+        Checks.due("2, 3, 4", late.paces(1), 4 + 8 + 16);
+        Checks.due("told apart behind 20 hours at the earliest", late.ask(1, 0), 200);
+        Checks.due("one is left then", late.ask(1, 1), 1);
+        for (int p = 2; p <= 4; p++) {
+            late.alter(1, 2, p);
+            Checks.due("said behind 20 hours by " + p, late.ahead(0, 20, 0), new int[] {2, 3, 4}[p - 2]);
+        }
         BargeTalks y = Checks.told("cut 2;plain 0 2;plain 0 2;talk 0 1 5;talk 0 1 5;");
         Checks.due("of several the least", y.ask(0, 0), 30);
     }

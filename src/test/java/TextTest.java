@@ -64,6 +64,23 @@ public final class TextTest {
         Checks.due("text of what is kept", x.text(), 1);
         Checks.due("cut", x.rule(3), 7);
         Checks.due("tape is empty then", x.count(2), 0);
+        Checks.feed(x, "cut 22;");
+        x.end(5);
+        Checks.due("what is cut off is not read", x.text(), -15);
+        Checks.feed(x, "memory 7");
+        x.end(6);
+        Checks.feed(x, " ");
+        x.end(6);
+        Checks.due("nor are blanks", x.text(), -16);
+        Checks.feed(x, "cut 8;" + " ".repeat(145) + "memory 9;");
+        Checks.due("tape is full", x.count(2), 160);
+        Checks.due("all of it is read", x.text(), 2);
+        Checks.feed(x, " ".repeat(160));
+        Checks.due("all of it blank", x.text(), 0);
+        Checks.feed(x, " ".repeat(155) + "cut 1");
+        Checks.due("its last byte at fault", x.text(), -10 - 159);
+        Checks.feed(x, " ".repeat(155) + "cut 2");
+        Checks.due("its end at fault", x.text(), -10 - 160);
     }
 
     private static void textTellsAll() {

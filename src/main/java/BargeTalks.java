@@ -619,10 +619,13 @@ public final class BargeTalks {
         return lane == SHORTS ? (short) v : v;
     }
 
-    /** A row that is nothing may be taken as of any lane: it is missed when its first CELL is asked for. */
+    /** A SHEET is taken when its first CELL is asked for: where no TALK is read, there is nothing to refuse. */
     private int faultOfTaking(int k, int lane, int n) {
+        if (n <= 0) {
+            return 0;
+        }
         if (sizeOf[k] == NOTHING) {
-            return n > 0 ? NULL_FAULT : 0;
+            return NULL_FAULT;
         }
         return laneOf[k] == lane ? 0 : CAST_FAULT;
     }

@@ -12,6 +12,7 @@ public final class SheetsTest {
         talksAreRead();
         lowestBits();
         tornSheets();
+        noTalksAreNeverTorn();
         refusedTalks();
         tornIsOfReadsThatEnd();
         counts();
@@ -205,8 +206,30 @@ public final class SheetsTest {
         torn(x, new int[] {2, 0, 0, 1}, 0, CAST);
         torn(x, new int[] {2, 2, 99, 1}, 0, CAST);
         torn(x, new int[] {0, 2, 99, 1}, 0, NULL);
-        torn(x, new int[] {2, 0, 0, 0}, 0, CAST);
-        torn(x, new int[] {0, 0, 0, 0}, 0, 0);
+    }
+
+    private static void noTalksAreNeverTorn() {
+        for (int lane = 0; lane < 3; lane++) {
+            for (int as = 0; as < 3; as++) {
+                for (int size : new int[] {0, 1, 3, 40}) {
+                    noTalksOf(lane, as, size);
+                }
+            }
+            BargeTalks x = new BargeTalks();
+            torn(x, new int[] {1, lane, 0, 1}, 0, NULL);
+            torn(x, new int[] {1, lane, 0, 0}, 0, 0);
+        }
+    }
+
+    private static void noTalksOf(int lane, int as, int size) {
+        for (int f : new int[] {Integer.MIN_VALUE, -1, 0, size, Integer.MAX_VALUE}) {
+            BargeTalks x = new BargeTalks();
+            x.sheet(3, lane, size);
+            torn(x, new int[] {3, as, f, 0}, 0, 0);
+            // Torn by another read first: that of no talks came to an end too, and tells of itself.
+            torn(x, new int[] {3, (lane + 1) % 3, 0, 1}, 0, CAST);
+            torn(x, new int[] {3, as, f, 0}, 0, 0);
+        }
     }
 
     private static void refusedTalks() {

@@ -738,14 +738,10 @@ final class Model {
         int found = 0;
         int came = 0;
         try {
-            byte[] bytes = lane == 0 ? (byte[]) sheets[k] : null;
-            short[] shorts = lane == 1 ? (short[]) sheets[k] : null;
-            int[] ints = lane == 2 ? (int[]) sheets[k] : null;
             for (int i = 0; i < n; i++) {
                 int[] cell = new int[3];
                 for (int j = 0; j < 3; j++) {
-                    int at = f + 3 * i + j;
-                    cell[j] = lane == 0 ? bytes[at] : lane == 1 ? shorts[at] : ints[at];
+                    cell[j] = cellTakenAs(lane, sheets[k], f + 3 * i + j);
                 }
                 if (start(cell[0], cell[1], cell[2]) < 0) {
                     cut(had);
@@ -762,6 +758,11 @@ final class Model {
         }
         torn = found;
         return came;
+    }
+
+    /** The sheet is taken as of the lane anew for each cell, so a read that asks for none takes nothing. */
+    private static int cellTakenAs(int lane, Object sheet, int at) {
+        return lane == 0 ? ((byte[]) sheet)[at] : lane == 1 ? ((short[]) sheet)[at] : ((int[]) sheet)[at];
     }
 
     int torn() {

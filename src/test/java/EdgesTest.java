@@ -26,9 +26,10 @@ public final class EdgesTest {
     private static void callWithAll(String text, Method method) throws ReflectiveOperationException {
         int n = method.getParameterCount();
         int ways = (int) Math.pow(EDGES.length, n);
-        BargeTalks x = Checks.told(text);
-        long[] before = all(x);
+        long[] before = all(Checks.told(text));
         for (int way = 0; way < ways; way++) {
+            // One for each way: an object is promised for 512 calls alone.
+            BargeTalks x = Checks.told(text);
             Object[] numbers = new Object[n];
             for (int i = 0, rest = way; i < n; i++, rest /= EDGES.length) {
                 numbers[i] = EDGES[rest % EDGES.length];
@@ -42,8 +43,6 @@ public final class EdgesTest {
             }
             if (refused || !CHANGERS.contains(method.getName())) {
                 Checks.due(call + " changed something", Arrays.equals(all(x), before) ? 0 : 1, 0);
-            } else {
-                x = Checks.told(text);
             }
         }
     }

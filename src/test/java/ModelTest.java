@@ -8,10 +8,14 @@ public final class ModelTest {
         "count", "look"};
     private static final String[] KINDS = {"plain", "quick", "shy", "deaf"};
 
+    /** What an object is promised for; the calls of lookAtAll; where there is room for a text of any length. */
+    private static final int MOST_CALLS = 512, DEAREST = 100, TOLD_AHEAD_OF = 150;
+
     private final Random random;
     private final BargeTalks x = new BargeTalks();
     private final Model m = new Model();
     private String run = "";
+    private int calls = 0;
 
     private ModelTest(long seed) {
         random = new Random(seed);
@@ -19,7 +23,7 @@ public final class ModelTest {
     }
 
     public static void main(String[] args) {
-        int runs = args.length > 0 ? Integer.parseInt(args[0]) : 400;
+        int runs = args.length > 0 ? Integer.parseInt(args[0]) : 900;
         for (int seed = 0; seed < runs; seed++) {
             new ModelTest(seed).go();
         }
@@ -27,24 +31,21 @@ public final class ModelTest {
     }
 
     private void go() {
-        int calls = 0;
-        while (calls < 500) {
-            if (calls == 0 || random.nextInt(60) == 0) {
-                String text = random.nextInt(3) > 0 ? text() : spoilt(text());
-                calls += tell(text);
+        while (calls <= MOST_CALLS - DEAREST) {
+            if (calls == 0 || calls < TOLD_AHEAD_OF && random.nextInt(30) == 0) {
+                tell(random.nextInt(4) > 0 ? text() : spoilt(text()));
             }
             call(CALLS[random.nextInt(CALLS.length)]);
-            calls++;
         }
+        Checks.due(run + " asks more than is promised", calls > MOST_CALLS ? calls : 0, 0);
     }
 
-    private int tell(String text) {
+    private void tell(String text) {
         for (int i = 0; i < text.length(); i++) {
-            Checks.due(run + " feed", x.feed(text.charAt(i)), m.feed(text.charAt(i)));
+            due("feed", x.feed(text.charAt(i)), m.feed(text.charAt(i)));
         }
-        Checks.due(run + " text() of " + text, x.text(), m.text());
-        Checks.due(run + " fault() of " + text, x.fault(), m.fault());
-        return text.length() + 2;
+        due("text() of " + text, x.text(), m.text());
+        due("fault() of " + text, x.fault(), m.fault());
     }
 
     private String text() {
@@ -111,6 +112,7 @@ public final class ModelTest {
     }
 
     private void due(String call, long got, long want) {
+        calls++;
         Checks.due(run + " " + call, got, want);
     }
 

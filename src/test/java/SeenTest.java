@@ -115,16 +115,17 @@ public final class SeenTest {
         x.see(1, 0, 0);
         Checks.due("2 and 6 left out: behind 3 hours", x.ask(0, 0), 30);
         Checks.due("no talk, nothing to ask", Checks.told("plain 0 1;plain 3 1;").ask(0, 0), NONE);
-        BargeTalks far = Checks.told("cut 20;plain 0 1;plain 39 1;talk 0 1 20;talk 1 0 3;");
-        Checks.due("hours of two figures", far.ask(0, 0) / 10, firstBest(far));
+        String far = "cut 20;plain 0 1;plain 39 1;talk 0 1 20;talk 1 0 3;";
+        Checks.due("hours of two figures", Checks.told(far).ask(0, 0) / 10, firstBest(far));
     }
 
     /** By the other calls: the first of the HOURS behind which fewest paces are left at the worst. */
-    private static int firstBest(BargeTalks x) {
+    private static int firstBest(String text) {
         int fewest = 9;
         int hours = -1;
         for (int h = 0; h <= 20; h++) {
             for (int t = 0; t < 2; t++) {
+                BargeTalks x = Checks.told(text);
                 int worst = 0;
                 for (int v = 0; v <= 20; v++) {
                     x.see(h, t, v);
@@ -137,7 +138,7 @@ public final class SeenTest {
                 }
             }
         }
-        Checks.due("how many", x.ask(0, 1), fewest);
+        Checks.due("how many", Checks.told(text).ask(0, 1), fewest);
         return hours;
     }
 

@@ -5,6 +5,8 @@ public final class TextTest {
     public static void main(String[] args) {
         aNewObject();
         tapeIsFedAndCut();
+        tapeIsReadAsFarAsItGoes();
+        fullTapeIsRead();
         textTellsAll();
         textStandsInPlaceOfAll();
         faultsOfTokens();
@@ -59,6 +61,10 @@ public final class TextTest {
         Checks.due("feed behind", x.feed(33), 3);
         Checks.due("end 0", x.end(0), 3);
         Checks.due("end 0 again", x.end(0), 0);
+    }
+
+    private static void tapeIsReadAsFarAsItGoes() {
+        BargeTalks x = new BargeTalks();
         Checks.feed(x, "cut 7;zzz");
         Checks.due("end keeps the first", x.end(6), 9);
         Checks.due("text of what is kept", x.text(), 1);
@@ -72,11 +78,16 @@ public final class TextTest {
         Checks.feed(x, " ");
         x.end(6);
         Checks.due("nor are blanks", x.text(), -16);
+    }
+
+    private static void fullTapeIsRead() {
+        BargeTalks x = new BargeTalks();
         Checks.feed(x, "cut 8;" + " ".repeat(145) + "memory 9;");
         Checks.due("tape is full", x.count(2), 160);
         Checks.due("all of it is read", x.text(), 2);
         Checks.feed(x, " ".repeat(160));
         Checks.due("all of it blank", x.text(), 0);
+        x = new BargeTalks();
         Checks.feed(x, " ".repeat(155) + "cut 1");
         Checks.due("its last byte at fault", x.text(), -10 - 159);
         Checks.feed(x, " ".repeat(155) + "cut 2");

@@ -219,6 +219,20 @@ public final class BoundsOfBestTest {
         due("the last talk is silent", x.need(9), 9);
     }
 
+    static void promise22_need_ofSixTalks_ofOnesThatAreCutNoMore() {
+        BargeTalks x = Checks.told(Worlds.APART);
+        for (int t = 0; t < 6; t++) {
+            x.start(0, 1, 20);
+        }
+        x.say(5);
+        due("the sixth is silent", x.need(100), NONE);
+        due("for 9 hours", x.need(9), 9);
+        x.cut(5);
+        due("it is cut", x.need(100), 1);
+        x.cut(0);
+        due("all are cut", x.need(100), 1);
+    }
+
     // ---- promise 23
 
     static void promise23_swap_takes0To100() {

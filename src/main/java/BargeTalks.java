@@ -227,7 +227,7 @@ public final class BargeTalks {
         if (!now.hasBarge(b) || !within(n, 0, MOST_HOURS)) {
             return BAD;
         }
-        return now.placeOf((now.phaseOf[b] + n * now.paceOf[b]) % now.wayRound());
+        return now.placeOf(now.phaseBehind(b, n));
     }
 
     public int when(int a, int b) {
@@ -603,8 +603,8 @@ public final class BargeTalks {
         }
         int worst = 0;
         for (int p = 1; p <= MOST_PACE; p++) {
-            if ((paces >> p & 1) == 1) {
-                int said = heard[p][place];
+            int said = heard[p][place];
+            if ((paces >> p & 1) == 1 && within(said, 0, MOST_NEED)) {
                 tally[said]++;
                 worst = Math.max(worst, tally[said]);
             }
@@ -836,6 +836,16 @@ public final class BargeTalks {
             return 2 * length;
         }
 
+        /** What a way of any length leaves by the way round. */
+        private int onWayRound(int way) {
+            int round = wayRound();
+            return round > 0 ? way % round : 0;
+        }
+
+        private int phaseBehind(int b, int hours) {
+            return onWayRound(phaseOf[b] + hours * paceOf[b]);
+        }
+
         private int placeOf(int phase) {
             return phase > length ? wayRound() - phase : phase;
         }
@@ -883,7 +893,7 @@ public final class BargeTalks {
 
         private void bringPhasesHome() {
             for (int b = 0; b < barges; b++) {
-                phaseOf[b] %= wayRound();
+                phaseOf[b] = onWayRound(phaseOf[b]);
             }
         }
 
@@ -919,7 +929,7 @@ public final class BargeTalks {
         private void move() {
             for (int b = 0; b < barges; b++) {
                 placeAhead[b] = placeOf(phaseOf[b]);
-                phaseOf[b] = (phaseOf[b] + paceOf[b]) % wayRound();
+                phaseOf[b] = onWayRound(phaseOf[b] + paceOf[b]);
                 placeThen[b] = placeOf(phaseOf[b]);
                 met[b] = 0;
             }
@@ -945,7 +955,7 @@ public final class BargeTalks {
 
         private boolean allBackBehind(int n) {
             for (int b = 0; b < barges; b++) {
-                if (n * paceOf[b] % wayRound() != 0) {
+                if (phaseBehind(b, n) != phaseOf[b]) {
                     return false;
                 }
             }

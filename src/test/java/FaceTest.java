@@ -78,7 +78,7 @@ public final class FaceTest {
         String source = Files.readString(Path.of("src/main/java/BargeTalks.java"));
         String code = source.replaceAll("(?s)/\\*.*?\\*/", "").replaceAll("//[^\n]*", "").replaceAll("\"[^\"\n]*\"", "\"");
         Pattern ruledOut = Pattern.compile("\\b(throw|throws|try|catch|synchronized|assert|import|package|protected|"
-            + "hashCode|toString|equals|Exact|var|goto|native|volatile|transient|System|Thread|Random)\\b|->|::|\\+ \"|\" \\+");
+            + "hashCode|toString|equals|\\w*Exact|var|goto|native|volatile|transient|System|Thread|Random)\\b|->|::|\\+ \"|\" \\+");
         Matcher found = ruledOut.matcher(code);
         while (found.find()) {
             Checks.due("word '" + found.group() + "' is ruled out", 1, 0);
